@@ -412,8 +412,8 @@ public final class RingPlaces {
 
     /** How far two degrees are from one another, the shorter way round. */
     private static int gapBetween(int x, int y) {
-        int gap = Math.abs(x - y);
-        return Math.min(gap, DEGREES - gap);
+        int gap = x < y ? y - x : x - y;
+        return gap <= DEGREES - gap ? gap : DEGREES - gap;
     }
 
     private static int reachAt(int loud, int sharp, int gap) {
@@ -476,85 +476,86 @@ public final class RingPlaces {
         }
     }
 
-    /** The tape's TOKENS one by one: the fields tell the one that is looked at. */
+    /** The TOKENS of a tape, all cut ahead of reading; the last one is its end. */
     private static final class Tokens {
         static final int AT_END = 0;
-        static final int WORD = 1;
-        static final int NUMBER = 2;
-        static final int SEMICOLON = 3;
-        static final int NO_TOKEN = 4;
+        static final int NO_TOKEN = 1;
+        static final int SEMICOLON = 2;
+        static final int NUMBER = 3;
+        static final int NAME = 4;
+        static final int GRAMMAR_WORD = 5;
 
+        private static final int ROOM = MOST_BYTES + 1;
         private static final int MOST_LETTERS = 6;
         private static final int MOST_DIGITS = 4;
 
-        int kind;
-        int start;
-        /** A NUMBER's value; of a WORD a number that no other WORD has. */
-        int value;
+        final int[] kinds = new int[ROOM];
+        final int[] starts = new int[ROOM];
+        /** A NUMBER's value; of a NAME a number that no other NAME has. */
+        final int[] values = new int[ROOM];
         /** The grammar's word; null for any other TOKEN. */
-        Word word;
+        final Word[] words = new Word[ROOM];
+        int last = 0;
 
         private final byte[] tape;
-        private int length;
-        private int bound;
-        private int next;
+        private int length = 0;
+        private int next = 0;
 
         Tokens(byte[] tape) {
             this.tape = tape;
         }
 
-        void begin(int tapeLength) {
+        void cut(int tapeLength) {
             length = Math.min(tapeLength, tape.length);
-            bound = Math.min(length, MOST_BYTES);
+            int bound = Math.min(length, MOST_BYTES);
+            last = 0;
             next = 0;
-            advance();
+            while (next < bound && last < MOST_BYTES) {
+                if (tape[next] == ' ' || tape[next] == '\n') {
+                    next++;
+                } else {
+                    cutOne();
+                    last++;
+                }
+            }
+            starts[last] = bound;
+            kinds[last] = AT_END;
+            words[last] = null;
         }
 
-        void advance() {
-            skipBlanks();
-            start = next;
-            value = 0;
-            word = null;
-            if (next >= bound) {
-                // A long TOKEN may have led beyond the bound; the end is told at the bound itself.
-                start = bound;
-                kind = AT_END;
-            } else if (tape[next] == ';') {
-                kind = SEMICOLON;
-                next++;
+        private void cutOne() {
+            starts[last] = next;
+            words[last] = null;
+            if (isLetter(tape[next]) || isDigit(tape[next])) {
+                cutRun();
             } else {
-                readRun();
-            }
-        }
-
-        private void skipBlanks() {
-            while (next < bound && (tape[next] == ' ' || tape[next] == '\n')) {
+                kinds[last] = tape[next] == ';' ? SEMICOLON : NO_TOKEN;
                 next++;
             }
         }
 
-        private void readRun() {
+        /** A TOKEN that begins ahead of the bound is cut whole, so the tape's length ends it. */
+        private void cutRun() {
+            int start = next;
             int letters = 0;
-            int digits = 0;
-            int code = 0;
+            int value = 0;
             while (next < length && (isLetter(tape[next]) || isDigit(tape[next]))) {
                 if (isLetter(tape[next])) {
                     letters++;
-                    code = code * 27 + tape[next] - 'a' + 1;
+                    value = value * 27 + tape[next] - 'a' + 1;
                 } else {
-                    digits++;
-                    code = code * 10 + tape[next] - '0';
+                    value = value * 10 + tape[next] - '0';
                 }
                 next++;
             }
-            value = code;
-            if (digits == 0 && letters > 0 && letters <= MOST_LETTERS) {
-                kind = WORD;
-                word = Word.lyingAt(tape, start, next);
-            } else if (letters == 0 && digits > 0 && digits <= MOST_DIGITS) {
-                kind = NUMBER;
+            values[last] = value;
+            if (letters == 0) {
+                kinds[last] = next - start <= MOST_DIGITS ? NUMBER : NO_TOKEN;
+            } else if (letters == next - start && letters <= MOST_LETTERS) {
+                words[last] = Word.lyingAt(tape, start, next);
+                kinds[last] = words[last] == null ? NAME : GRAMMAR_WORD;
             } else {
-                kind = NO_TOKEN;
+                kinds[last] = NO_TOKEN;
             }
         }
 
@@ -579,6 +580,8 @@ public final class RingPlaces {
 
         private int faultPlace = 0;
         private final Tokens tokens;
+        /** The TOKEN that is looked at. */
+        private int at = 0;
         private final int[] landNames = new int[MOST_LANDS];
         private final int[] thingNames = new int[MOST_THINGS];
         private boolean apartTold = false;
@@ -586,7 +589,6 @@ public final class RingPlaces {
         /** Bits of what was told of the THING that is being read, where it is told but once. */
         private int toldOnce = 0;
         private int number = 0;
-        private int numberPlace = 0;
 
         Reader(byte[] tape) {
             tokens = new Tokens(tape);
@@ -594,15 +596,16 @@ public final class RingPlaces {
 
         /** How many LINES; -1 less the place of the FAULT. */
         int readText(int length) {
+            tokens.cut(length);
+            at = 0;
             draft.clear();
             faultKind = 0;
             faultPlace = 0;
             apartTold = false;
             firstTold = false;
-            tokens.begin(length);
             int lines = 0;
-            while (lines < MOST_BYTES && tokens.kind != Tokens.AT_END) {
-                if (!readLine() || !passSemicolon()) {
+            while (lines < MOST_BYTES && tokens.kinds[at] != Tokens.AT_END) {
+                if (!readLine(tokens.words[at]) || !passSemicolon()) {
                     return -1 - faultPlace;
                 }
                 lines++;
@@ -614,26 +617,28 @@ public final class RingPlaces {
             return lines;
         }
 
+        /** The FAULT is at the TOKEN that is looked at. */
         private boolean refuse(int kind) {
-            return refuseAt(kind, tokens.start);
-        }
-
-        private boolean refuseAt(int kind, int place) {
             faultKind = kind;
-            faultPlace = place;
+            faultPlace = tokens.starts[at];
             return false;
         }
 
+        private void pass() {
+            if (at < tokens.last) {
+                at++;
+            }
+        }
+
         private boolean passSemicolon() {
-            if (tokens.kind != Tokens.SEMICOLON) {
+            if (tokens.kinds[at] != Tokens.SEMICOLON) {
                 return refuse(CANNOT_COME);
             }
-            tokens.advance();
+            pass();
             return true;
         }
 
-        private boolean readLine() {
-            Word word = tokens.word;
+        private boolean readLine(Word word) {
             if (word == Word.LAND_LINE) {
                 return readLand();
             }
@@ -659,13 +664,13 @@ public final class RingPlaces {
             if (draft.lands >= MOST_LANDS) {
                 return refuse(TOO_MANY);
             }
-            tokens.advance();
-            int name = tokens.value;
-            if (!passNewName()) {
+            pass();
+            if (!isNewName()) {
                 return false;
             }
-            landNames[draft.lands] = name;
+            landNames[draft.lands] = tokens.values[at];
             draft.lands++;
+            pass();
             return true;
         }
 
@@ -673,35 +678,28 @@ public final class RingPlaces {
             if (draft.things >= MOST_THINGS) {
                 return refuse(TOO_MANY);
             }
-            tokens.advance();
-            int name = tokens.value;
-            if (!passNewName()) {
+            pass();
+            if (!isNewName()) {
                 return false;
             }
-            int land = readName(landNames, draft.lands);
+            int t = draft.things;
+            thingNames[t] = tokens.values[at];
+            pass();
+            int land = indexOfName(landNames, draft.lands);
             if (land == NONE) {
                 return false;
             }
-            tokens.advance();
-            int t = draft.things;
-            thingNames[t] = name;
+            pass();
             draft.addThing(land);
             toldOnce = 0;
-            return readFact(t, FROM, 0, DEGREES - 1) && readFact(t, TO, 0, DEGREES - 1)
-                && readParts(t);
-        }
-
-        private boolean readParts(int t) {
-            for (int k = 0; k < MOST_BYTES && tokens.kind == Tokens.WORD; k++) {
-                if (!readPart(t)) {
-                    return false;
-                }
+            boolean read = readFact(t, FROM, 0, DEGREES - 1) && readFact(t, TO, 0, DEGREES - 1);
+            for (int k = 0; k < MOST_BYTES && read && tokens.kinds[at] != Tokens.SEMICOLON; k++) {
+                read = readPart(t, tokens.words[at]);
             }
-            return true;
+            return read;
         }
 
-        private boolean readPart(int t) {
-            Word word = tokens.word;
+        private boolean readPart(int t, Word word) {
             if (word == Word.GROUND_PART) {
                 return readGround(t);
             }
@@ -719,24 +717,27 @@ public final class RingPlaces {
         }
 
         private boolean readGround(int t) {
-            tokens.advance();
-            if (!readNumber(0, LAST_CELL)) {
+            pass();
+            if (!isNumber(0, LAST_CELL)) {
                 return false;
             }
             int first = number;
-            if (!readNumber(first, LAST_CELL)) {
+            pass();
+            if (!isNumber(first, LAST_CELL)) {
                 return false;
             }
+            pass();
             draft.addCells(t, first, number);
             return true;
         }
 
         private boolean readVoice(int t) {
-            tokens.advance();
-            if (!readNumber(0, VOICES - 1)) {
+            pass();
+            if (!isNumber(0, VOICES - 1)) {
                 return false;
             }
-            draft.tell(t, OWN_VOICES, draft.told(t, OWN_VOICES) | 1 << number);
+            pass();
+            draft.addVoice(t, number);
             return true;
         }
 
@@ -745,10 +746,11 @@ public final class RingPlaces {
                 return refuse(BAD_NAME);
             }
             apartTold = true;
-            tokens.advance();
-            if (!readNumber(0, MOST_APART)) {
+            pass();
+            if (!isNumber(0, MOST_APART)) {
                 return false;
             }
+            pass();
             draft.apart = number;
             return true;
         }
@@ -757,13 +759,14 @@ public final class RingPlaces {
             if (draft.placeCount >= MOST_PLACES) {
                 return refuse(TOO_MANY);
             }
-            tokens.advance();
-            if (!readNumber(0, DEGREES - 1)) {
+            pass();
+            if (!isNumber(0, DEGREES - 1)) {
                 return false;
             }
             if (draft.hasPlaceAt(number)) {
-                return refuseAt(BAD_NAME, numberPlace);
+                return refuse(BAD_NAME);
             }
+            pass();
             draft.places[draft.placeCount] = number;
             draft.placeCount++;
             return true;
@@ -774,37 +777,38 @@ public final class RingPlaces {
                 return refuse(BAD_NAME);
             }
             firstTold = true;
-            tokens.advance();
-            if (tokens.word != Word.PAPER_LINE && tokens.word != Word.THERE_PART) {
+            pass();
+            Word word = tokens.words[at];
+            if (word != Word.PAPER_LINE && word != Word.THERE_PART) {
                 return refuse(CANNOT_COME);
             }
-            draft.thereFirst = tokens.word == Word.THERE_PART;
-            tokens.advance();
+            draft.thereFirst = word == Word.THERE_PART;
+            pass();
             return true;
         }
 
         private boolean readPaper() {
-            int t = readThingOnce(PAPER_DAY);
+            int t = passThing(PAPER_DAY);
             if (t == NONE || !readFact(t, PAPER_DAY, 0, DAYS - 1)
                 || !readFact(t, BY, draft.told(t, PAPER_DAY), DAYS - 1)) {
                 return false;
             }
-            if (tokens.word != Word.THERE_PART) {
+            if (tokens.words[at] != Word.THERE_PART) {
                 return true;
             }
-            tokens.advance();
+            pass();
             return readFact(t, THERE, 0, DAYS - 1);
         }
 
         private boolean readNarrow() {
-            int t = readThingOnce(COST);
+            int t = passThing(COST);
             return t != NONE && readFact(t, COST, 0, MOST_NUMBER);
         }
 
         /** Passes a LINE's word and its THING, of which this must not be told yet; NONE: a FAULT. */
-        private int readThingOnce(int what) {
-            tokens.advance();
-            int t = readName(thingNames, draft.things);
+        private int passThing(int what) {
+            pass();
+            int t = indexOfName(thingNames, draft.things);
             if (t == NONE) {
                 return NONE;
             }
@@ -812,7 +816,7 @@ public final class RingPlaces {
                 refuse(BAD_NAME);
                 return NONE;
             }
-            tokens.advance();
+            pass();
             return t;
         }
 
@@ -821,25 +825,24 @@ public final class RingPlaces {
                 return refuse(BAD_NAME);
             }
             toldOnce |= 1 << what;
-            tokens.advance();
+            pass();
             return true;
         }
 
-        private boolean passNewName() {
-            if (!isName()) {
+        private boolean isNewName() {
+            if (tokens.kinds[at] != Tokens.NAME) {
                 return refuse(CANNOT_COME);
             }
             if (indexOf(landNames, draft.lands) != NONE
                 || indexOf(thingNames, draft.things) != NONE) {
                 return refuse(BAD_NAME);
             }
-            tokens.advance();
             return true;
         }
 
-        /** The number of the NAME that is looked at, which stays; NONE: a FAULT. */
-        private int readName(int[] names, int length) {
-            if (!isName()) {
+        /** The number of the NAME that is looked at; NONE: a FAULT. */
+        private int indexOfName(int[] names, int length) {
+            if (tokens.kinds[at] != Tokens.NAME) {
                 refuse(CANNOT_COME);
                 return NONE;
             }
@@ -850,13 +853,9 @@ public final class RingPlaces {
             return found;
         }
 
-        private boolean isName() {
-            return tokens.kind == Tokens.WORD && tokens.word == null;
-        }
-
         private int indexOf(int[] names, int length) {
             for (int k = 0; k < length && k < names.length; k++) {
-                if (names[k] == tokens.value) {
+                if (names[k] == tokens.values[at]) {
                     return k;
                 }
             }
@@ -864,24 +863,20 @@ public final class RingPlaces {
         }
 
         private boolean readFact(int t, int what, int least, int greatest) {
-            if (!readNumber(least, greatest)) {
+            if (!isNumber(least, greatest)) {
                 return false;
             }
+            pass();
             draft.tell(t, what, number);
             return true;
         }
 
-        private boolean readNumber(int least, int greatest) {
-            if (tokens.kind != Tokens.NUMBER) {
+        private boolean isNumber(int least, int greatest) {
+            if (tokens.kinds[at] != Tokens.NUMBER) {
                 return refuse(CANNOT_COME);
             }
-            if (tokens.value < least || tokens.value > greatest) {
-                return refuse(BAD_NUMBER);
-            }
-            number = tokens.value;
-            numberPlace = tokens.start;
-            tokens.advance();
-            return true;
+            number = tokens.values[at];
+            return number >= least && number <= greatest || refuse(BAD_NUMBER);
         }
     }
 
@@ -957,6 +952,10 @@ public final class RingPlaces {
             }
         }
 
+        void addVoice(int t, int voice) {
+            tell(t, OWN_VOICES, told(t, OWN_VOICES) | 1 << voice);
+        }
+
         boolean hasPlaceAt(int degree) {
             for (int p = 0; p < placeCount; p++) {
                 if (places[p] == degree) {
@@ -971,7 +970,7 @@ public final class RingPlaces {
         }
 
         boolean hasVoice(int t, int voice) {
-            return (told(t, OWN_VOICES) >> voice & 1) != 0;
+            return (facts[t * FACTS + OWN_VOICES] >> voice & 1) != 0;
         }
 
         boolean shareCell(int a, int b) {
@@ -979,8 +978,8 @@ public final class RingPlaces {
         }
 
         boolean isInArc(int t, int degree) {
-            int from = told(t, FROM);
-            int to = told(t, TO);
+            int from = facts[t * FACTS + FROM];
+            int to = facts[t * FACTS + TO];
             if (from <= to) {
                 return degree >= from && degree <= to;
             }
@@ -1036,6 +1035,7 @@ public final class RingPlaces {
         final Ring ring;
         final int[] degree = new int[MOST_THINGS];
         final int[] voice = new int[MOST_THINGS];
+        final int[] loud = new int[MOST_THINGS];
         final int[] sharp = new int[MOST_THINGS];
         final int[] hears = new int[MOST_THINGS];
 
@@ -1050,11 +1050,12 @@ public final class RingPlaces {
             }
         }
 
-        /** Nobody stands, and each is as sharp as told. */
+        /** Nobody stands, and each is as loud and as sharp as told. */
         void clear() {
             for (int t = 0; t < MOST_THINGS; t++) {
                 degree[t] = NONE;
                 voice[t] = NONE;
+                loud[t] = ring.told(t, LOUD);
                 sharp[t] = ring.told(t, SHARP);
                 hears[t] = 0;
                 tooNear[t] = 0;
@@ -1064,6 +1065,7 @@ public final class RingPlaces {
         void copyFrom(Standing other) {
             System.arraycopy(other.degree, 0, degree, 0, MOST_THINGS);
             System.arraycopy(other.voice, 0, voice, 0, MOST_THINGS);
+            System.arraycopy(other.loud, 0, loud, 0, MOST_THINGS);
             System.arraycopy(other.sharp, 0, sharp, 0, MOST_THINGS);
             System.arraycopy(other.hears, 0, hears, 0, MOST_THINGS);
             System.arraycopy(other.tooNear, 0, tooNear, 0, MOST_THINGS);
@@ -1111,9 +1113,10 @@ public final class RingPlaces {
                 if (o == t || !touching(t, o)) {
                     continue;
                 }
-                hears[o] += sign * reachOn(t, o);
-                hears[t] += sign * reachOn(o, t);
-                if (gapBetween(degree[t], degree[o]) < ring.apart) {
+                int gap = gapBetween(degree[t], degree[o]);
+                hears[o] += sign * reachAt(loud[t], sharp[t], gap);
+                hears[t] += sign * reachAt(loud[o], sharp[o], gap);
+                if (gap < ring.apart) {
                     tooNear[o] += sign;
                     tooNear[t] += sign;
                 }
@@ -1121,11 +1124,12 @@ public final class RingPlaces {
         }
 
         boolean touching(int a, int b) {
-            return isUp(a) && isUp(b) && voice[a] == voice[b] && ring.shareCell(a, b);
+            return degree[a] != NONE && degree[b] != NONE && voice[a] == voice[b]
+                && (ring.cells[a] & ring.cells[b]) != 0;
         }
 
         int reachOn(int a, int b) {
-            return reachAt(ring.told(a, LOUD), sharp[a], gapBetween(degree[a], degree[b]));
+            return reachAt(loud[a], sharp[a], gapBetween(degree[a], degree[b]));
         }
 
         /** WRONG of one that stands and is not DEAD. */
@@ -1374,7 +1378,7 @@ public final class RingPlaces {
                 return false;
             }
             trial.put(t, degree, voice);
-            if (isRight()) {
+            if (trial.firstWrong() == NONE) {
                 return true;
             }
             trial.take(t);

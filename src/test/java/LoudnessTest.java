@@ -5,6 +5,7 @@ public final class LoudnessTest {
 
     public static void main(String[] args) {
         fits();
+        fitsFromOne();
         fitsWithDead();
         noFit();
         narrows();
@@ -45,6 +46,14 @@ public final class LoudnessTest {
         Checks.due("24: no such", r.fitOf(-1) + r.fitOf(16) + r.fitOf(Integer.MAX_VALUE), -3);
         r.lift(0);
         Checks.due("24: as it was then", r.fitOf(0), 5);
+    }
+
+    private static void fitsFromOne() {
+        RingPlaces r = Checks.ringOf("land l;thing a l 0 9 ground 0 0 bear 0;thing b l 0 9 ground 0 0 bear 0;");
+        r.stand(0, 0, 0);
+        r.stand(1, 78, 0);
+        // By 400: 1 is heard as 2 and needs 1; from 2 on it would be 5, and ever more.
+        Checks.due("23: the least, from 1 each", r.fit(), 2);
     }
 
     private static void fitsWithDead() {
@@ -101,6 +110,12 @@ public final class LoudnessTest {
         Checks.due("26: 11", sharp.narrow(), -1);
         sharp.stand(2, 20, 0);
         Checks.due("26: no set mends an ARC", sharp.narrow(), -1);
+        RingPlaces first = Checks.ringOf("land l;thing b l 0 999 ground 0 0 voice 0 bear 9999;narrow b 9999;apart 0;"
+            + "thing z l 0 999 ground 0 0 loud 1 dead 1 4;thing a l 0 999 ground 0 0 voice 0 bear 100 loud 1;");
+        first.stand(0, 200, 0);
+        first.stand(2, 100, 0);
+        Checks.due("26: the first THING", first.narrow(), 1);
+        Checks.due("27: COST 9999", first.narrowCost(), 9999);
     }
 
     private static void narrowsOfLikeCost() {

@@ -108,6 +108,10 @@ public final class PapersTest {
         RingPlaces r = Checks.ringOf("land l;apart 1;thing t l 0 3599 ground 0 0 bear 9999 loud 1;"
             + "thing p l 3599 2 ground 0 0 bear 9999 loud 1;paper p 0 9;place 0;place 1;place 3599;");
         Checks.due("31: NEED 1, the middle of 3599 to 2 is 0", r.barred(0, 3, 0), 0b001);
+        RingPlaces s = Checks.ringOf("land l;apart 1;thing p l 2 0 ground 0 0 bear 9999 loud 1;"
+            + "thing t l 0 3599 ground 0 0 bear 9999 loud 1;paper p 0 9 there 8;place 1800;place 1801;place 1;");
+        Checks.due("31: by the first THING, the middle of 2 to 0 is 1801", s.barred(1, 3, 0), 0b010);
+        Checks.due("31: not CLEARED", s.barred(1, 3, 1), 0);
     }
 
     private static int[] shares(RingPlaces r) {
@@ -139,6 +143,11 @@ public final class PapersTest {
         Checks.dueAll("32: two LANDS ahead of fewer moves", shares(r), 2, 2);
         r.stand(0, 5, 1);
         Checks.dueAll("32: a stays, b moves", shares(r), 2, 1);
+        RingPlaces one = Checks.ringOf("land k;thing a k 0 9;place 5;place 7;");
+        one.stand(0, 7, 0);
+        Checks.dueAll("32: the second of two", shares(one), 1, 0);
+        one.stand(0, 5, 0);
+        Checks.dueAll("32: the first of two", shares(one), 1, 0);
         RingPlaces out = Checks.ringOf("land k;thing a k 0 9;place 5;place 15;");
         out.stand(0, 15, 0);
         Checks.dueAll("32: a lies outside of its ARC", shares(out), 1, 1);

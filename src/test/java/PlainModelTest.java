@@ -9,6 +9,9 @@ import java.util.Random;
 public final class PlainModelTest {
     private static final int RUNS = 400;
     private static final int CALLS = 512;
+    private static final int STYLES = 5;
+    /** A style of text in which all hear one another, and only some are drowned. */
+    private static final int CROWDED = 4;
 
     private static int wrong = 0;
 
@@ -58,17 +61,10 @@ public final class PlainModelTest {
     // ---- texts
 
     private void newRing() throws Exception {
-        String text = text();
         if (random.nextInt(3) == 0) {
-            text = spoilt(text);
+            readText(spoilt(text()));
         }
-        byte[] bytes = text.getBytes(StandardCharsets.ISO_8859_1);
-        if (bytes.length > 1240) {
-            bytes = Arrays.copyOf(bytes, 1240);
-        }
-        feedTape(bytes);
-        call("ring");
-        call("fault");
+        readText(text());
         things = ours.count(1);
         for (int what = 0; what < 7; what++) {
             call("count", what);
@@ -79,6 +75,16 @@ public final class PlainModelTest {
         }
     }
 
+    private void readText(String text) throws Exception {
+        byte[] bytes = text.getBytes(StandardCharsets.ISO_8859_1);
+        if (bytes.length > 1240) {
+            bytes = Arrays.copyOf(bytes, 1240);
+        }
+        feedTape(bytes);
+        call("ring");
+        call("fault");
+    }
+
     private String text() {
         StringBuilder text = new StringBuilder();
         int lands = 1 + random.nextInt(4);
@@ -86,23 +92,24 @@ public final class PlainModelTest {
             text.append("land l").append((char) ('a' + l)).append(';');
         }
         int many = 2 + random.nextInt(random.nextInt(4) == 0 ? 15 : 6);
-        int style = random.nextInt(4);
+        int style = random.nextInt(STYLES);
         for (int t = 0; t < many; t++) {
             appendThing(text, t, lands, style);
         }
         int places = random.nextInt(7);
+        int at = style == 0 ? random.nextInt(3600) : 3450;
         for (int p = 0; p < places; p++) {
-            text.append("place ").append(style == 0 ? random.nextInt(3600) : (3500 + random.nextInt(400)) % 3600);
-            text.append(';');
+            text.append("place ").append(at % 3600).append(';');
+            at += 1 + random.nextInt(style == 0 ? 600 : 100);
         }
-        if (random.nextBoolean()) {
-            text.append("apart ").append(random.nextInt(random.nextBoolean() ? 20 : 301)).append(";\n");
+        if (random.nextBoolean() || style == CROWDED) {
+            text.append("apart ").append(random.nextInt(random.nextBoolean() || style == CROWDED ? 20 : 301)).append(";\n");
         }
         if (random.nextInt(3) == 0) {
             text.append(random.nextBoolean() ? "first there;" : "first paper ;");
         }
         for (int t = 0; t < many; t++) {
-            if (random.nextBoolean()) {
+            if (random.nextInt(3) > 0) {
                 int day = random.nextInt(30);
                 text.append("paper t").append((char) ('a' + t)).append(' ').append(day);
                 text.append(' ').append(day + random.nextInt(30));
@@ -120,13 +127,13 @@ public final class PlainModelTest {
         int to = style == 0 ? random.nextInt(3600) : random.nextInt(400);
         text.append("thing t").append((char) ('a' + t)).append(" l").append((char) ('a' + random.nextInt(lands)));
         text.append(' ').append(from).append(' ').append(to);
-        int cell = random.nextInt(style == 3 ? 36 : 8);
+        int cell = style == CROWDED ? 0 : random.nextInt(style == 3 ? 36 : 8);
         text.append(" ground ").append(cell).append(' ').append(cell + random.nextInt(4));
         for (int v = 0; v < 1 + random.nextInt(2); v++) {
-            text.append(" voice ").append(random.nextInt(style == 1 ? 2 : 4));
+            text.append(" voice ").append(style == CROWDED ? 0 : random.nextInt(style == 1 ? 2 : 4));
         }
-        if (random.nextBoolean()) {
-            text.append(" loud ").append(1 + random.nextInt(random.nextBoolean() ? 40 : 999));
+        if (random.nextBoolean() || style == CROWDED) {
+            text.append(" loud ").append(1 + random.nextInt(random.nextBoolean() || style == CROWDED ? 40 : 999));
         }
         if (random.nextBoolean()) {
             text.append(" sharp ").append(1 + random.nextInt(random.nextBoolean() ? 10 : 99));
@@ -198,9 +205,26 @@ public final class PlainModelTest {
         return k < 7 && place != -1 ? place : (3400 + random.nextInt(600)) % 3600;
     }
 
+    private int degreeInArc(int t) {
+        if (t < 0 || t >= things) {
+            return 0;
+        }
+        int from = ours.thing(t, 1);
+        return (from + random.nextInt(Math.floorMod(ours.thing(t, 2) - from, 3600) + 1)) % 3600;
+    }
+
+    private int someDead() {
+        for (int t = random.nextInt(5); t < things; t++) {
+            if (ours.thing(t, 8) != RingPlaces.NONE) {
+                return t;
+            }
+        }
+        return someThing();
+    }
+
     private int someDay() {
         int k = random.nextInt(20);
-        return k == 0 ? random.nextInt(1010) - 5 : random.nextInt(80);
+        return k == 0 ? random.nextInt(1010) - 5 : random.nextInt(random.nextBoolean() ? 35 : 80);
     }
 
     private void standSomewhere() throws Exception {
@@ -213,7 +237,7 @@ public final class PlainModelTest {
             if (own != 0 && random.nextInt(3) > 0) {
                 voice = Integer.numberOfTrailingZeros(own);
             }
-            call("stand", t, someDegree(), voice);
+            call("stand", t, random.nextInt(3) > 0 ? degreeInArc(t) : someDegree(), voice);
         }
         call("heard", t);
         call("wrong", t);
@@ -264,8 +288,11 @@ public final class PlainModelTest {
                 call("right", someThing(), someThing(), someDay());
                 break;
             case 4:
-                call("barred", someThing(), someDay(), random.nextInt(3));
-                call("barred", someThing(), someDay(), 1);
+                int barredOne = someThing();
+                int day = someDay();
+                call("barred", barredOne, day, 0);
+                call("barred", barredOne, day, 1);
+                call("barred", someThing(), someDay(), random.nextInt(5) - 2);
                 break;
             case 5:
                 call("shares", 0);
@@ -273,10 +300,11 @@ public final class PlainModelTest {
                 call("shares", random.nextInt(5) - 2);
                 break;
             case 6:
-                call("drift", someThing(), someDegree(), random.nextInt(1002) - 1);
+                call("drift", someDead(), someDegree(), random.nextInt(1002) - 1);
                 break;
             case 7:
-                call("meets", someThing(), someDegree(), random.nextInt(5), random.nextInt(1002) - 1);
+                call("meets", someDead(), someDegree(), random.nextInt(4), random.nextInt(300) - 1);
+                call("meets", someThing(), someDegree(), random.nextInt(6) - 1, random.nextInt(1002) - 1);
                 break;
             case 8:
                 call("image", random.nextInt(4) - 1);

@@ -6,7 +6,9 @@ import java.lang.reflect.Method;
 import java.lang.reflect.Modifier;
 import java.nio.file.Files;
 import java.nio.file.Path;
+import java.util.Map;
 import java.util.Set;
+import java.util.TreeMap;
 import java.util.TreeSet;
 import java.util.regex.Matcher;
 import java.util.regex.Pattern;
@@ -141,6 +143,41 @@ public final class RulesTest {
             must(thrown.group(1).equals("new NoSuchElementException()"), "6: throw " + thrown.group(1));
         }
         methodsAreShort(source);
+        callsAreShallow(bare);
+    }
+
+    /** Bodies by names: methods of one name count as one, so the depth is never told too low. */
+    private static void callsAreShallow(String bare) {
+        Map<String, String> bodies = new TreeMap<>();
+        Matcher head = Pattern.compile("(?m)^( {4}| {8})(?!private enum|if |for |while |switch |\\}|return )[^\\s=][^=;\n]*?(\\w+)\\([^;{}]*\\)[^;{}=]*\\{$").matcher(bare);
+        while (head.find()) {
+            int end = bare.indexOf("\n" + head.group(1) + "}", head.end());
+            bodies.merge(head.group(2), bare.substring(head.end(), end), String::concat);
+        }
+        must(bodies.size() > 100, "11: methods are seen: " + bodies.size());
+        Map<String, Integer> depths = new TreeMap<>();
+        for (String name : bodies.keySet()) {
+            must(depthOf(name, bodies, depths, 0) <= 8, "11: at most eight calls deep: " + name);
+        }
+    }
+
+    private static int depthOf(String name, Map<String, String> bodies, Map<String, Integer> depths, int open) {
+        if (depths.containsKey(name)) {
+            return depths.get(name);
+        }
+        if (open > 40) {
+            must(false, "8: methods that call one another: " + name);
+            return 0;
+        }
+        int deepest = 0;
+        Matcher calls = Pattern.compile("\\b(\\w+)\\(").matcher(bodies.get(name));
+        while (calls.find()) {
+            if (bodies.containsKey(calls.group(1)) && !calls.group(1).equals(name)) {
+                deepest = Math.max(deepest, depthOf(calls.group(1), bodies, depths, open + 1));
+            }
+        }
+        depths.put(name, deepest + 1);
+        return deepest + 1;
     }
 
     /** A method begins behind an indent of 4 or 8 and ends at the brace of the same indent. */

@@ -117,6 +117,9 @@ public final class SearchTest {
         Checks.due("22: a WRONG one is asked for", most(two, 0), 0);
         Checks.due("22: it does not stand now", two.stands(0, 0), -1);
         Checks.due("22: without PLACES", most(Checks.ringOf(THREE), 0, 1), 0);
+        RingPlaces lesser = Checks.ringOf("land l;thing a l 0 9 voice 3 voice 0 worth 9999;place 5;place 4;");
+        Checks.due("22: alone", most(lesser, 0), 9999);
+        Checks.dueAll("22: the lesser PLACE, then the lesser VOICE", Checks.standings(lesser, 0), 5, 0);
     }
 
     private static void mostOfLikeOnes() {
@@ -209,6 +212,10 @@ public final class SearchTest {
         Checks.due("25: a DEAD one does not give way", r.letIn(0), -1);
         r.stand(1, 50, 1);
         Checks.due("25: it lies otherwise", r.letIn(0), 0);
+        RingPlaces two = Checks.ringOf("land l;thing a l 50 50 ground 0 0 voice 0 bear 9999;"
+            + "thing z l 0 99 ground 0 0 voice 0 dead 5 9;place 50;place 90;");
+        two.stand(1, 50, 0);
+        Checks.due("25: a DEAD one does not give way, though it could", two.letIn(0), -1);
         RingPlaces three = Checks.ringOf("land l;thing a l 0 0 ground 0 0 voice 0;thing b l 1 1 ground 1 1 voice 0;"
             + "thing c l 2 2 ground 2 2 voice 0;thing n l 3 3 ground 3 3 voice 0;place 0;place 1;place 2;place 3;");
         three.stand(0, 9, 0);

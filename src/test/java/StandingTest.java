@@ -182,6 +182,10 @@ public final class StandingTest {
         Checks.due("28: a DEAD one hears more", r.sell(0, 1), 0);
         Checks.due("28: a DEAD one may be sold", r.sell(3, 1), 1);
         Checks.dueAll("28: it lies there", Checks.standings(r, 1, 3), 350, 1, 400, 0);
+        r.lift(3);
+        r.stand(2, 400, 0);
+        Checks.due("28: the first one hears more", r.sell(2, 1), 0);
+        Checks.due("28: the first one hears less", r.stand(1, 450, 1) && r.sell(2, 1) == 1, true);
     }
 
     private static void images() {

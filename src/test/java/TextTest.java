@@ -67,6 +67,8 @@ public final class TextTest {
         Checks.due("4: no blank needed at ;", Checks.read(r, "land a;thing t a 0 1;place 7;apart 0;"), 4);
         Checks.due("4: noughts ahead", Checks.read(r, "place 0007;"), 1);
         Checks.due("4: its degree", r.place(0), 7);
+        Checks.due("4: NAMES that are nearly alike", Checks.read(r, "land a;land aa;land ab;land ba;land z;land zzzzzz;"), 6);
+        Checks.due("4: NAMES that are nearly words", Checks.read(r, "land hand;land lane;land lan;land landa;land p;"), 5);
     }
 
     private static void fault(String text, int kind, int place) {
