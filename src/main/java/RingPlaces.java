@@ -149,7 +149,7 @@ public final class RingPlaces {
     }
 
     public boolean lift(int t) {
-        if (!isUp(t)) {
+        if (!hasUp(t)) {
             return false;
         }
         standing.take(t);
@@ -157,7 +157,7 @@ public final class RingPlaces {
     }
 
     public int stands(int t, int what) {
-        if (!isUp(t)) {
+        if (!hasUp(t)) {
             return NONE;
         }
         if (what == 0) {
@@ -167,18 +167,18 @@ public final class RingPlaces {
     }
 
     public int reach(int a, int b) {
-        if (a == b || !isUp(a) || !isUp(b)) {
+        if (a == b || !hasUp(a) || !hasUp(b)) {
             return NONE;
         }
         return standing.touching(a, b) ? standing.reachOn(a, b) : 0;
     }
 
     public int heard(int t) {
-        return isUp(t) ? standing.hears[t] : NONE;
+        return hasUp(t) ? standing.hears[t] : NONE;
     }
 
     public int wrong(int t) {
-        return isUp(t) && !ring.isDead(t) ? standing.wrongOf(t) : NONE;
+        return ring.has(t) && standing.isLiving(t) ? standing.wrongOf(t) : NONE;
     }
 
     public int judge() {
@@ -240,7 +240,7 @@ public final class RingPlaces {
     }
 
     public int sell(int a, int b) {
-        if (a == b || !isUp(a) || !isUp(b)) {
+        if (a == b || !hasUp(a) || !hasUp(b)) {
             return NONE;
         }
         trial.copyFrom(standing);
@@ -282,14 +282,14 @@ public final class RingPlaces {
     }
 
     public int drift(int t, int x, int day) throws NoSuchElementException {
-        if (!isDead(t) || !isDegree(x) || !isDay(day)) {
+        if (!hasDead(t) || !isDegree(x) || !isDay(day)) {
             throw new NoSuchElementException();
         }
         return ring.driftOf(t, x, day);
     }
 
     public int meets(int t, int x, int voice, int day) {
-        if (!isDead(t) || !isDegree(x) || !isVoice(voice) || !isDay(day)) {
+        if (!hasDead(t) || !isDegree(x) || !isVoice(voice) || !isDay(day)) {
             return NOT_AS_TOLD;
         }
         for (int d = day; d < DAYS; d++) {
@@ -350,11 +350,11 @@ public final class RingPlaces {
         return day >= 0 && day < DAYS;
     }
 
-    private boolean isUp(int t) {
+    private boolean hasUp(int t) {
         return ring.has(t) && standing.isUp(t);
     }
 
-    private boolean isDead(int t) {
+    private boolean hasDead(int t) {
         return ring.has(t) && ring.isDead(t);
     }
 
@@ -966,7 +966,7 @@ public final class RingPlaces {
         }
 
         boolean isDead(int t) {
-            return told(t, AMP) != NONE;
+            return facts[t * FACTS + AMP] != NONE;
         }
 
         boolean hasVoice(int t, int voice) {
@@ -1075,6 +1075,11 @@ public final class RingPlaces {
             return degree[t] != NONE;
         }
 
+        /** Whether it stands and is not DEAD. */
+        boolean isLiving(int t) {
+            return degree[t] != NONE && !ring.isDead(t);
+        }
+
         int howManyUp() {
             int many = 0;
             for (int t = 0; t < ring.things; t++) {
@@ -1148,7 +1153,7 @@ public final class RingPlaces {
 
         int firstWrong() {
             for (int t = 0; t < ring.things; t++) {
-                if (isUp(t) && !ring.isDead(t) && wrongOf(t) != 0) {
+                if (isLiving(t) && wrongOf(t) != 0) {
                     return t;
                 }
             }
@@ -1158,8 +1163,8 @@ public final class RingPlaces {
         /** Whether a DEAD one that has come to a degree meets one that stands. */
         boolean isMetAt(int dead, int x, int itsVoice) {
             for (int o = 0; o < ring.things; o++) {
-                if (isUp(o) && !ring.isDead(o) && voice[o] == itsVoice
-                    && ring.shareCell(dead, o) && gapBetween(x, degree[o]) < ring.apart) {
+                if (isLiving(o) && voice[o] == itsVoice && ring.shareCell(dead, o)
+                    && gapBetween(x, degree[o]) < ring.apart) {
                     return true;
                 }
             }
@@ -1310,23 +1315,19 @@ public final class RingPlaces {
                 return 0;
             }
             for (int a = 0; a < ring.things; a++) {
-                if (isMovable(a) && admitMoving(t, a, NONE)) {
+                if (standing.isLiving(a) && admitMoving(t, a, NONE)) {
                     return 1;
                 }
             }
             // The greater one leads, for sets go by their bits.
             for (int b = 0; b < ring.things; b++) {
                 for (int a = 0; a < b; a++) {
-                    if (isMovable(a) && isMovable(b) && admitMoving(t, a, b)) {
+                    if (standing.isLiving(a) && standing.isLiving(b) && admitMoving(t, a, b)) {
                         return 2;
                     }
                 }
             }
             return NONE;
-        }
-
-        private boolean isMovable(int t) {
-            return standing.isUp(t) && !ring.isDead(t);
         }
 
         private boolean admitMoving(int t, int a, int b) {
@@ -1492,14 +1493,10 @@ public final class RingPlaces {
             return NONE;
         }
 
-        private boolean isFitted(int t) {
-            return standing.isUp(t) && !ring.isDead(t);
-        }
-
         /** What each needs by the loudness of all now; false, if one needs too much. */
         private boolean hearAnew() {
             for (int t = 0; t < ring.things; t++) {
-                next[t] = isFitted(t) ? neededBy(t) : loud[t];
+                next[t] = standing.isLiving(t) ? neededBy(t) : loud[t];
                 if (next[t] > MOST_LOUD) {
                     return false;
                 }
@@ -1533,7 +1530,7 @@ public final class RingPlaces {
             int sum = 0;
             for (int t = 0; t < MOST_THINGS; t++) {
                 answer[t] = NONE;
-                if (t < ring.things && isFitted(t)) {
+                if (t < ring.things && standing.isLiving(t)) {
                     answer[t] = loud[t];
                     sum += loud[t];
                 }
