@@ -221,7 +221,8 @@ public final class RingPlaces {
     }
 
     public int fitOf(int t) {
-        return ring.has(t) ? loudness.answer[t] : NONE;
+        // Whether there is such a one is asked of the RING of that fit(), which another may have followed.
+        return t >= 0 && t < MOST_THINGS ? loudness.answer[t] : NONE;
     }
 
     public int letIn(int t) {
@@ -1461,7 +1462,7 @@ public final class RingPlaces {
 
     /** FIT. */
     private static final class Loudness {
-        /** What each needed by the latest FIT that there was. */
+        /** What each needed by the latest FIT that there was; NONE for those that had no part in it. */
         final int[] answer = new int[MOST_THINGS];
 
         private final Ring ring;

@@ -8,6 +8,7 @@ public final class LoudnessTest {
         fitsFromOne();
         fitsWithDead();
         noFit();
+        fitOfStaysWithAnotherRing();
         narrows();
         narrowsOfLikeCost();
         narrowsFirstSix();
@@ -76,6 +77,26 @@ public final class LoudnessTest {
         Checks.due("23: hears 2018 and needs 1009", r.fit(), -1);
         Checks.due("24: of the latest that was", r.fitOf(0), 999);
         Checks.due("23: the STANDING stays", r.stands(1, 0), 97);
+    }
+
+    private static void fitOfStaysWithAnotherRing() {
+        RingPlaces r = Checks.ringOf("land l;thing a l 0 9 bear 40;thing b l 0 9;thing c l 0 9 bear 80;");
+        r.image(0);
+        r.stand(0, 0, 0);
+        r.stand(2, 0, 0);
+        Checks.due("23: two stand", r.fit(), 2 + 4);
+        Checks.due("4: an empty RING", Checks.read(r, ""), 0);
+        Checks.dueAll("24: an empty RING takes nothing back", fitOf(r, 4), 2, -1, 4, -1);
+        Checks.due("4: one LINE has a FAULT", Checks.read(r, "land l;thing") < 0, true);
+        Checks.dueAll("24: a FAULT takes nothing back", fitOf(r, 4), 2, -1, 4, -1);
+        Checks.due("4: a RING of five", Checks.read(r, "land l;thing a l 0 9;thing b l 0 9;thing c l 0 9;thing d l 0 9;"
+            + "thing e l 0 9;"), 6);
+        r.stand(4, 0, 0);
+        Checks.dueAll("24: another RING takes nothing back", fitOf(r, 5), 2, -1, 4, -1, -1);
+        r.restore(0);
+        Checks.dueAll("24: restore takes nothing back", fitOf(r, 5), 2, -1, 4, -1, -1);
+        Checks.due("23: nobody stands there", r.fit(), 0);
+        Checks.dueAll("24: a FIT of none is the latest", fitOf(r, 5), -1, -1, -1, -1, -1);
     }
 
     private static final String NARROW = "land l;thing a l 0 999 ground 0 0 voice 0 bear 100 loud 1;"

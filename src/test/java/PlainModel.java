@@ -699,7 +699,7 @@ final class PlainModel {
     }
 
     public int fitOf(int t) {
-        return has(t) && fitted.containsKey(t) ? fitted.get(t) : NONE;
+        return fitted.getOrDefault(t, NONE);
     }
 
     public int letIn(int t) {
