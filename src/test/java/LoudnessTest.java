@@ -137,6 +137,12 @@ public final class LoudnessTest {
         first.stand(2, 100, 0);
         Checks.due("26: the first THING", first.narrow(), 1);
         Checks.due("27: COST 9999", first.narrowCost(), 9999);
+        first.image(0);
+        Checks.read(first, "");
+        Checks.due("27: another RING takes nothing back", first.narrowCost(), 9999);
+        Checks.due("26: the empty set", first.narrow(), 0);
+        first.restore(0);
+        Checks.due("27: restore brings nothing back", first.narrowCost(), 0);
     }
 
     private static void narrowsOfLikeCost() {
