@@ -8,14 +8,27 @@ final class Checks {
     static final int THROWS = Integer.MIN_VALUE;
 
     private static int wrong = 0;
+    private static int made = 0;
+    private static String about = "";
 
     private Checks() {
     }
 
+    /** What the checks from here on are about. */
+    static void about(String what) {
+        about = what.isEmpty() ? "" : what + ": ";
+    }
+
+    /** How many checks were made. */
+    static int made() {
+        return made;
+    }
+
     static void due(String what, long got, long want) {
+        made++;
         if (got != want) {
             wrong++;
-            System.out.println(what + " answered " + got + ", due is " + want);
+            System.out.println(about + what + " answered " + got + ", due is " + want);
         }
     }
 
@@ -25,9 +38,14 @@ final class Checks {
 
     /** Several answers of one kind, in their order. */
     static void dueAll(String what, int[] got, int... want) {
-        if (!Arrays.equals(got, want)) {
+        dueText(what, Arrays.toString(got), Arrays.toString(want));
+    }
+
+    static void dueText(String what, String got, String want) {
+        made++;
+        if (!got.equals(want)) {
             wrong++;
-            System.out.println(what + " answered " + Arrays.toString(got) + ", due is " + Arrays.toString(want));
+            System.out.println(about + what + " answered " + got + ", due is " + want);
         }
     }
 
@@ -65,6 +83,56 @@ final class Checks {
             due("ring() of " + text, lines, 0);
         }
         return r;
+    }
+
+    /** A new object reads the text: so many LINES. */
+    static void lines(String text, int lines) {
+        RingPlaces r = new RingPlaces();
+        String what = shortened(text);
+        due("4: LINES of " + what, read(r, text), lines);
+        due("5: no FAULT of " + what, r.fault(), 0);
+    }
+
+    /** A new object reads the text: a FAULT of a kind, at a place. */
+    static void fault(String text, int kind, int place) {
+        RingPlaces r = new RingPlaces();
+        String what = shortened(text);
+        due("4: FAULT's place of " + what, read(r, text), -1 - place);
+        due("5: FAULT's kind of " + what, r.fault(), kind);
+        due("4: tape is empty behind the FAULT of " + what, r.count(5), 0);
+    }
+
+    /** A FAULT at the place of the sign ^ in a text, which is taken out of it. */
+    static void faultAt(String marked, int kind) {
+        int place = marked.indexOf('^');
+        fault(marked.substring(0, place) + marked.substring(place + 1), kind, place);
+    }
+
+    private static String shortened(String text) {
+        return text.length() > 60 ? ".." + text.substring(text.length() - 60) : text;
+    }
+
+    /** Stands of one THING after the other: its number, degree, VOICE. */
+    static void stand(RingPlaces r, int... stands) {
+        for (int k = 0; k + 2 < stands.length; k += 3) {
+            due("9: stand " + stands[k], r.stand(stands[k], stands[k + 1], stands[k + 2]), true);
+        }
+    }
+
+    /** All that can be asked without changing anything, for the first few THINGS. */
+    static String state(RingPlaces r, int things) {
+        StringBuilder all = new StringBuilder();
+        for (int what = 0; what < 6; what++) {
+            all.append(r.count(what)).append(' ');
+        }
+        all.append("fault ").append(r.fault()).append(" judge ").append(r.judge());
+        all.append(" cost ").append(r.narrowCost());
+        for (int t = 0; t < things; t++) {
+            all.append("; ").append(t).append(" at ").append(r.stands(t, 0)).append(" voice ").append(r.stands(t, 1));
+            all.append(" hears ").append(r.heard(t)).append(" fit ").append(r.fitOf(t)).append(" order ").append(r.orderAt(t));
+            all.append(" loud ").append(thing(r, t, 4)).append(" sharp ").append(thing(r, t, 5));
+        }
+        return all.toString();
     }
 
     static String blanks(int many) {
