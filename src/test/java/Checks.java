@@ -10,8 +10,55 @@ final class Checks {
     private static int wrong = 0;
     private static int made = 0;
     private static String about = "";
+    private static boolean ringAhead = false;
+    private static int objects = 0;
 
     private Checks() {
+    }
+
+    /** From here on each new object has had another RING, as full as can be, so that what is left of it would show. */
+    static void withRingAhead(boolean ahead) {
+        ringAhead = ahead;
+    }
+
+    /** A new object. What its latest shortest, fit and narrow told is untouched, and nothing is kept. */
+    static RingPlaces fresh() {
+        RingPlaces r = new RingPlaces();
+        if (ringAhead) {
+            objects++;
+            if (objects % 2 == 0) {
+                liveThrough(r, " 0 3599 ground 0 39 voice 0;", " 0 999 there 0;");
+            } else {
+                liveThrough(r, " 500 700 ground 0 39 dead 9 9 loud 9;", " 0 999;");
+            }
+        }
+        return r;
+    }
+
+    private static void liveThrough(RingPlaces r, String each, String paper) {
+        StringBuilder text = new StringBuilder("apart 300;first there;");
+        for (int k = 0; k < 8; k++) {
+            text.append("land ").append((char) ('a' + k)).append(';');
+        }
+        for (int k = 0; k < 16; k++) {
+            char name = (char) ('a' + k);
+            text.append("thing t").append(name).append(' ').append((char) ('a' + k / 2)).append(each);
+            text.append("paper t").append(name).append(paper);
+        }
+        for (int k = 0; k < 6; k++) {
+            text.append("place ").append(k).append(';');
+        }
+        if (read(r, text.toString()) != 48) {
+            throw new IllegalStateException("a RING with a FAULT: " + text);
+        }
+        for (int t = 0; t < 16; t++) {
+            r.stand(t, 10 * t, t % 4);
+        }
+        r.shares(0);
+        row(r, 0, 1);
+        r.find();
+        row(r, 15, 14, 13, 12, 11, 10, 9, 8, 7, 6, 5, 4);
+        r.arc();
     }
 
     /** What the checks from here on are about. */
@@ -77,7 +124,7 @@ final class Checks {
 
     /** A new object with a RING that must be without FAULT. */
     static RingPlaces ringOf(String text) {
-        RingPlaces r = new RingPlaces();
+        RingPlaces r = fresh();
         int lines = read(r, text);
         if (lines < 0) {
             due("ring() of " + text, lines, 0);
@@ -87,7 +134,7 @@ final class Checks {
 
     /** A new object reads the text: so many LINES. */
     static void lines(String text, int lines) {
-        RingPlaces r = new RingPlaces();
+        RingPlaces r = fresh();
         String what = shortened(text);
         due("4: LINES of " + what, read(r, text), lines);
         due("5: no FAULT of " + what, r.fault(), 0);
@@ -95,7 +142,7 @@ final class Checks {
 
     /** A new object reads the text: a FAULT of a kind, at a place. */
     static void fault(String text, int kind, int place) {
-        RingPlaces r = new RingPlaces();
+        RingPlaces r = fresh();
         String what = shortened(text);
         due("4: FAULT's place of " + what, read(r, text), -1 - place);
         due("5: FAULT's kind of " + what, r.fault(), kind);

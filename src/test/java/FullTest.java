@@ -1,6 +1,3 @@
-import java.util.ArrayList;
-import java.util.List;
-
 /** A RING as full as can be: every call at its greatest numbers, and each search at its longest. */
 public final class FullTest {
     private FullTest() {
@@ -65,24 +62,30 @@ public final class FullTest {
     private static void everyNumber() {
         int[] numbers = {Integer.MIN_VALUE, -3601, -2, -1, 0, 1, 2, 3, 4, 5, 6, 7, 8, 12, 13, 14, 15, 16, 17, 39, 40, 255,
             999, 1000, 1200, 1240, 1241, 1800, 3599, 3600, Integer.MAX_VALUE};
-        List<RingPlaces> rings = new ArrayList<>();
-        rings.add(new RingPlaces());
-        rings.add(Checks.ringOf(full("0 3599 ground 0 0 voice 0")));
-        rings.add(Checks.ringOf(full("0 3599 ground 0 39 dead 300 4")));
-        for (RingPlaces r : rings) {
-            for (int t = 0; t < 16; t++) {
-                r.stand(t, 3599 - t, t % 4);
-            }
+        String[] texts = {"", full("0 3599 ground 0 0 voice 0"), full("0 3599 ground 0 39 dead 300 4")};
+        for (String text : texts) {
             for (int a : numbers) {
-                askOne(r, a);
+                askOne(allStand(text), a);
+                RingPlaces r = allStand(text);
+                int asked = 0;
                 for (int b : numbers) {
                     askTwo(r, a, b);
+                    asked++;
+                    // An object is good for 512 calls.
+                    if (asked % 20 == 0) {
+                        r = allStand(text);
+                    }
                 }
             }
-            for (int what = 0; what < 7; what++) {
-                r.count(what);
-            }
         }
+    }
+
+    private static RingPlaces allStand(String text) {
+        RingPlaces r = Checks.ringOf(text);
+        for (int t = 0; t < 16; t++) {
+            r.stand(t, 3599 - t, t % 4);
+        }
+        return r;
     }
 
     private static void askOne(RingPlaces r, int a) {

@@ -98,6 +98,12 @@ final class LoudnessSentences {
         RingPlaces r = pair(0, 0, 490);
         Checks.due("23: 1 each", r.fit(), 2);
         Checks.due("23: once more", r.fit(), 2);
+        Checks.read(r, "land l;thing a l 0 9 bear 9999;thing b l 0 9 bear 9999;");
+        Checks.stand(r, 0, 0, 0, 1, 0, 0);
+        Checks.due("23: another RING", r.fit(), 1000);
+        Checks.read(r, "land l;thing a l 0 9 ground 0 0 sharp 1 bear 0;thing b l 0 9 ground 0 0 sharp 1 bear 0;");
+        Checks.stand(r, 0, 0, 0, 1, 490, 0);
+        Checks.due("23: from 1 each, and not from what was", r.fit(), 2);
         // By 1010: 3 and 4 at first, then 4 and 5, then 5 and 5, then 5 and 6.
         RingPlaces few = Checks.ringOf("land l;thing a l 0 9 ground 0 0 bear 50;thing b l 0 9 ground 0 0 bear 61;");
         Checks.stand(few, 0, 0, 0, 1, 200, 0);
@@ -298,6 +304,21 @@ final class LoudnessSentences {
         Checks.dueText("26: nothing is changed", Checks.state(r, 3), ahead);
         Checks.due("12: as sharp as told", r.reach(2, 0), 196);
         Checks.due("26: once more", r.narrow(), 0b100);
+        r.lift(1);
+        Checks.due("26: a does not stand, and none is needed", r.narrow(), 0);
+        Checks.stand(r, 1, 401, 0, 2, 600, 1);
+        Checks.due("26: none gives a VOICE", r.narrow(), -1);
+        r.lift(2);
+        Checks.due("26: a alone", r.narrow(), 0);
+        RingPlaces other = hearing(150, 3, narrows(3, 1));
+        other.lift(2);
+        other.lift(3);
+        for (int k = 0; k < 6; k++) {
+            Checks.due("26: a, time and again", other.narrow(), 0b0010);
+        }
+        other.lift(1);
+        Checks.stand(other, 3, 400, 0);
+        Checks.due("26: c in its stead", other.narrow(), 0b1000);
         Checks.due("26: nobody stands", new RingPlaces().narrow(), 0);
         StringBuilder text = new StringBuilder("land l;apart 0;");
         for (int t = 0; t < 15; t++) {

@@ -139,6 +139,9 @@ final class OrderSentences {
         Checks.due("17: two", arc(many, 15, 14), 300);
         Checks.due("17: twelve", arc(many, 0, 1, 2, 3, 4, 5, 6, 7, 8, 9, 10, 11), 3300);
         Checks.due("17: thirteen", arc(many, 0, 1, 2, 3, 4, 5, 6, 7, 8, 9, 10, 11, 12), -2);
+        RingPlaces dead = Checks.ringOf("land l;thing a l 0 0 ground 0 0;thing z l 0 0 ground 0 0 dead 1 4;");
+        Checks.due("17: a DEAD one, too", arc(dead, 1, 0), 391);
+        Checks.due("18: a DEAD one, too", shortest(dead, 1, 0), 391);
         Document.says(TERMS, "all in one direction (and none of them goes round).");
         RingPlaces far = Checks.ringOf(alike(12, "loud 999 sharp 1 bear 551"));
         Checks.due("16: half of the ring", far.need(0, 1), 1800);

@@ -247,6 +247,11 @@ final class PaperSentences {
         Checks.due("31: BARRED by p or q", both.barred(0, 5, 0), 0b100111);
         Checks.due("31: by q alone", both.barred(0, 5, 1), 0b100001);
         Checks.due("31: p is there, and bars no more", both.barred(0, 20, 1), 0b100011);
+        for (int k = 0; k < 2; k++) {
+            RingPlaces alone = Checks.ringOf(BARS + "paper q 5 50;");
+            Checks.due("31: q alone", alone.barred(0, 5, 1), 0b100011);
+            Checks.due("31: q alone bars", alone.barred(0, 5, 0), 0b100011);
+        }
         RingPlaces turned = Checks.ringOf(BARS + "paper p 5 50;paper q 5 50 there 20;");
         Checks.due("31: by p alone", turned.barred(0, 5, 1), 0b000100);
         RingPlaces late = Checks.ringOf(BARS + "paper p 5 50 there 999;paper q 5 50 there 998;");
@@ -334,6 +339,16 @@ final class PaperSentences {
         shares("c is one of them", fewer, 2, 1);
         Checks.stand(fewer, 1, 5, 0);
         shares("b and c", fewer, 2, 0);
+        RingPlaces any = Checks.ringOf("land k;thing a k 0 9;place 5;place 7;place 6;");
+        int[] degrees = {5, 7, 6};
+        for (int degree : degrees) {
+            Checks.stand(any, 0, degree, 0);
+            shares("it lies at " + degree, any, 1, 0);
+        }
+        Checks.stand(any, 0, 8, 0);
+        shares("it lies at no PLACE", any, 1, 1);
+        Checks.read(any, "land k;thing a k 0 9;");
+        shares("no PLACE any more", any, 0, 0);
         RingPlaces dead = Checks.ringOf("land k;thing z k 0 9 dead 1 4;thing a k 0 9;place 5;");
         Checks.stand(dead, 0, 5, 0);
         shares("a DEAD one lies there", dead, 1, 1);
@@ -457,6 +472,16 @@ final class PaperSentences {
         Checks.due("34: another VOICE", r.meets(3, 0, 0, 0), -1);
         Checks.due("34: another degree", r.meets(3, 1800, 3, 0), -1);
         Checks.due("34: nobody stands", Checks.ringOf(DRIFTING).meets(3, 0, 3, 0), -1);
+        StringBuilder text = new StringBuilder(DRIFTING);
+        for (int t = 4; t < 16; t++) {
+            text.append("thing t").append((char) ('a' + t)).append(" l 0 9 ground 0 0;");
+        }
+        RingPlaces full = Checks.ringOf(text.toString());
+        for (int t = 4; t < 16; t++) {
+            full.stand(t, 20 * t, 0);
+        }
+        Checks.due("34: none of sixteen", full.meets(3, 1800, 0, 0), -1);
+        Checks.due("34: the last of sixteen", full.meets(3, 319, 0, 3), 3);
         Document.says("Promise 34", "-2: not as told.");
         int[][] none = {{0, 0, 3, 0}, {4, 0, 3, 0}, {-1, 0, 3, 0}, {16, 0, 3, 0}, {3, -1, 3, 0}, {3, 3600, 3, 0}, {3, 0, -1, 0}, {3, 0, 4, 0},
             {3, 0, 3, -1}, {3, 0, 3, 1000}, {LEAST, 0, 3, 0}, {GREATEST, 0, 3, 0}, {3, LEAST, 3, 0}, {3, GREATEST, 3, 0}, {3, 0, LEAST, 0},

@@ -19,6 +19,7 @@ public final class PlainModelTest {
     private final int run;
     private final RingPlaces ours = new RingPlaces();
     private final PlainModel plain = new PlainModel();
+    /** The calls that ours has had; whatever else a run must know it asks of the plain one. */
     private int calls = 0;
     private int things = 0;
 
@@ -65,7 +66,7 @@ public final class PlainModelTest {
             readText(spoilt(text()));
         }
         readText(text());
-        things = ours.count(1);
+        things = plain.count(1);
         for (int what = 0; what < 7; what++) {
             call("count", what);
         }
@@ -201,7 +202,7 @@ public final class PlainModelTest {
         if (k == 0) {
             return random.nextInt(3700) - 50;
         }
-        int place = ours.place(random.nextInt(6));
+        int place = plain.place(random.nextInt(6));
         return k < 7 && place != -1 ? place : (3400 + random.nextInt(600)) % 3600;
     }
 
@@ -209,13 +210,13 @@ public final class PlainModelTest {
         if (t < 0 || t >= things) {
             return 0;
         }
-        int from = ours.thing(t, 1);
-        return (from + random.nextInt(Math.floorMod(ours.thing(t, 2) - from, 3600) + 1)) % 3600;
+        int from = plain.thing(t, 1);
+        return (from + random.nextInt(Math.floorMod(plain.thing(t, 2) - from, 3600) + 1)) % 3600;
     }
 
     private int someDead() {
         for (int t = random.nextInt(5); t < things; t++) {
-            if (ours.thing(t, 8) != RingPlaces.NONE) {
+            if (plain.thing(t, 8) != RingPlaces.NONE) {
                 return t;
             }
         }
@@ -233,7 +234,7 @@ public final class PlainModelTest {
             call("lift", t);
         } else {
             int voice = random.nextInt(20) == 0 ? random.nextInt(7) - 1 : random.nextInt(4);
-            int own = t >= 0 && t < things ? ours.thing(t, 3) : 0;
+            int own = t >= 0 && t < things ? plain.thing(t, 3) : 0;
             if (own != 0 && random.nextInt(3) > 0) {
                 voice = Integer.numberOfTrailingZeros(own);
             }
@@ -311,7 +312,7 @@ public final class PlainModelTest {
                 break;
             case 9:
                 call("restore", random.nextInt(4) - 1);
-                things = ours.count(1);
+                things = plain.count(1);
                 break;
             case 10:
                 call("place", random.nextInt(8) - 1);

@@ -74,7 +74,10 @@ public final class RulesTest {
         for (Field f : RingPlaces.class.getDeclaredFields()) {
             must(Modifier.isPrivate(f.getModifiers()) || f.getName().equals("NONE"), "1: private: " + f);
         }
-        must(Modifier.isPublic(RingPlaces.class.getField("NONE").getModifiers()), "1: NONE is public");
+        Field none = RingPlaces.class.getField("NONE");
+        must(none.getModifiers() == (Modifier.PUBLIC | Modifier.STATIC | Modifier.FINAL), "1: NONE is public, static and final");
+        must(none.getType() == int.class && none.getInt(null) == -1, "1: NONE is the int -1");
+        must(RingPlaces.class.getPackageName().isEmpty(), "1: no package");
         must(Modifier.isFinal(RingPlaces.class.getModifiers()), "1: the class is final");
     }
 

@@ -42,7 +42,8 @@ final class SearchSentences {
     private static String quiet(int many, String each) {
         StringBuilder text = new StringBuilder("land l;");
         for (int k = 0; k < many; k++) {
-            text.append("thing ").append((char) ('a' + k)).append(" l ").append(each).append(" ground 0 0 loud 1 bear 9999;");
+            // The LAND is l.
+            text.append("thing ").append((char) ('a' + (k < 11 ? k : k + 1))).append(" l ").append(each).append(" ground 0 0 loud 1 bear 9999;");
         }
         return text.toString();
     }
@@ -137,6 +138,15 @@ final class SearchSentences {
         RingPlaces back = Checks.ringOf(quiet(1, "0 999 voice 0") + "thing b l 500 500 ground 0 0 voice 0 loud 1 bear 9999;place 500;place 100;");
         Checks.due("20: a must leave the first PLACE to b", find(back, 0, 1), 1);
         Checks.dueAll("20: a has the second", Checks.standings(back, 0, 1), 100, 0, 500, 0);
+        // c bears a once: what was tried and did not do must not be heard any more.
+        RingPlaces heard = Checks.ringOf("land l;thing a l 0 999 ground 0 0 voice 0 bear 9999;"
+            + "thing b l 200 200 ground 0 0 voice 0 loud 1 sharp 99 bear 9999;thing c l 0 999 ground 0 0 voice 0 loud 1 bear 196;"
+            + "place 200;place 400;");
+        Checks.stand(heard, 2, 300, 0);
+        Checks.due("21: in one way", ways(heard, 0, 1), 1);
+        Checks.due("20: the second way of a", find(heard, 0, 1), 1);
+        Checks.dueAll("20: a has the second PLACE", Checks.standings(heard, 0, 1, 2), 400, 0, 200, 0, 300, 0);
+        Checks.due("13: c hears a once", heard.heard(2), 196);
     }
 
     private static void findCalls() {
@@ -250,6 +260,9 @@ final class SearchSentences {
         Checks.dueAll("22: a does not stand any more", Checks.standings(r, 0, 1, 2), -1, -1, 500, 0, 100, 0);
         Checks.due("22: a WRONG one is asked for", r.stand(0, 1000, 0) && most(r, 0) == 0, true);
         Checks.due("22: it does not stand then", r.stands(0, 0), -1);
+        RingPlaces voices = Checks.ringOf("land l;thing a l 0 9 voice 3;thing b l 0 9 voice 2;place 9;place 7;");
+        Checks.due("22: with VOICES", most(voices, 1, 0), 2);
+        Checks.dueAll("22: each with its own", Checks.standings(voices, 0, 1), 9, 3, 9, 2);
         Checks.due("22: the greatest", most(Checks.ringOf("land l;thing a l 0 9 voice 0 worth 9999;thing b l 0 9 voice 0 worth 9999;"
             + "thing c l 0 9 voice 0 worth 9999;thing d l 0 9 voice 0 worth 9999;place 0;"), 0, 1, 2, 3), 39996);
         Document.says("Promise 22", "NONE: not as told, or it is not RIGHT without all of them (the STANDING stays).");
@@ -385,6 +398,14 @@ final class SearchSentences {
         Checks.dueText("25: the STANDING stays", Checks.state(r, 5), ahead);
         Checks.due("25: without PLACES", Checks.ringOf(quiet(1, "0 999 voice 0")).letIn(0), -1);
         Checks.due("25: without VOICES", Checks.ringOf(quiet(1, "0 999") + "place 5;").letIn(0), -1);
+        RingPlaces full = Checks.ringOf(quiet(16, "0 999 voice 0") + "place 0;place 100;");
+        for (int t = 0; t < 15; t++) {
+            full.stand(t, 20 + 40 * t, 0);
+        }
+        Checks.due("25: the last of sixteen", full.letIn(15), 0);
+        full.lift(15);
+        Checks.stand(full, 0, 80, 0, 1, 110, 0, 2, 3599, 0, 3, 10, 0);
+        Checks.due("25: too many are in its way", full.letIn(15), -1);
         Document.says("Promise 25", "-2: no such one, it stands, or is DEAD.");
         int[] none = {5, -1, 16, LEAST, GREATEST, 0, 1, 3, 4};
         for (int t : none) {

@@ -5,13 +5,19 @@ public final class SentencesTest {
 
     public static void main(String[] args) throws Exception {
         Document.open();
+        all();
+        Checks.withRingAhead(true);
+        all();
+        Document.mustBeHeld();
+        Checks.finish();
+    }
+
+    private static void all() {
         TextSentences.all();
         StandingSentences.all();
         OrderSentences.all();
         SearchSentences.all();
         LoudnessSentences.all();
         PaperSentences.all();
-        Document.mustBeHeld();
-        Checks.finish();
     }
 }

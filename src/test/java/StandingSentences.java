@@ -145,6 +145,8 @@ final class StandingSentences {
         }
         Checks.due("13: the first of sixteen", full.heard(0), 15 * 99900);
         Checks.due("13: the last of sixteen", full.heard(15), 15 * 99900);
+        Checks.due("37: sixteen stand", full.count(3), 16);
+        Checks.due("28: two of sixteen, all of them WRONG", full.sell(14, 15), 0);
     }
 
     private static void wrongByItself() {
@@ -416,6 +418,12 @@ final class StandingSentences {
         Checks.due("28: c is WRONG all the time", r.sell(0, 1), 0);
         r.lift(2);
         Checks.due("28: c does not stand", r.sell(0, 1), 1);
+        RingPlaces ahead = Checks.ringOf("land l;apart 0;thing c l 0 999 ground 0 1 voice 0 bear 9999;"
+            + "thing a l 0 999 ground 0 0 voice 0 bear 9999 loud 50;thing b l 0 999 ground 1 1 voice 0 bear 9999;");
+        Checks.stand(ahead, 0, 200, 0, 1, 100, 0, 2, 301, 0);
+        Checks.due("28: c would hear more, and is the first THING", ahead.sell(1, 2), 0);
+        Checks.stand(ahead, 2, 300, 0);
+        Checks.due("28: c would hear as much", ahead.sell(1, 2), 1);
         RingPlaces w = Checks.ringOf(three.replace("voice 1 bear 9999", "voice 1 bear 304"));
         Checks.stand(w, 0, 290, 0, 1, 100, 0, 2, 200, 0);
         Checks.due("14: c bears 108 and 196", w.wrong(2), 0);

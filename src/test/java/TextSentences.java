@@ -118,6 +118,16 @@ final class TextSentences {
         Checks.faultAt("place 1^.5;", 1);
         Checks.faultAt("place 1^.", 1);
         Checks.faultAt("place 1^:", 1);
+        manyTokens();
+    }
+
+    /** Each byte a TOKEN of its own, or none. */
+    private static void manyTokens() {
+        Checks.fault(";".repeat(1200), 1, 0);
+        Checks.fault("?".repeat(1240), 1, 0);
+        Checks.fault(";".repeat(1240), 1, 0);
+        Checks.lines(THING + " voice 1".repeat(147) + "   ;", 2);
+        Checks.fault(THING + " voice 1".repeat(147) + "    ;", 1, 1200);
     }
 
     private static void goingOn() {
@@ -191,8 +201,8 @@ final class TextSentences {
 
     /** A NUMBER from least to greatest: both ends are as told, what lies beyond them is not. */
     private static void range(String ahead, String behind, int least, int greatest) {
-        Checks.due("4: " + ahead + least, Checks.read(new RingPlaces(), ahead + least + behind) > 0, true);
-        Checks.due("4: " + ahead + greatest, Checks.read(new RingPlaces(), ahead + greatest + behind) > 0, true);
+        Checks.due("4: " + ahead + least, Checks.read(Checks.fresh(), ahead + least + behind) > 0, true);
+        Checks.due("4: " + ahead + greatest, Checks.read(Checks.fresh(), ahead + greatest + behind) > 0, true);
         if (least > 0) {
             Checks.faultAt(ahead + "^" + (least - 1) + behind, 2);
         }
@@ -317,6 +327,9 @@ final class TextSentences {
             Checks.faultAt("land ^" + word + ";", 1);
             Checks.faultAt("land l;thing ^" + word + " l 1 2;", 1);
             Checks.lines("land " + word.substring(1) + ";land " + word.charAt(0) + ";", 2);
+            for (int k = 0; k < word.length(); k++) {
+                Checks.lines("land " + word.substring(0, k) + "q" + word.substring(k + 1) + ";", 1);
+            }
         }
         Checks.lines("land lands;land things;land worths;", 3);
         Checks.faultAt("land ^7;", 1);
@@ -457,7 +470,7 @@ final class TextSentences {
             String text = THING + ";" + ahead + token;
             int kind = faultOf(slot, token);
             if (kind == 0 && token.equals(";")) {
-                Checks.due("4: it can come: " + text, Checks.read(new RingPlaces(), text) > 0, true);
+                Checks.due("4: it can come: " + text, Checks.read(Checks.fresh(), text) > 0, true);
             } else if (kind == 0) {
                 Checks.fault(text, 1, text.length());
             } else {
@@ -689,6 +702,14 @@ final class TextSentences {
         Checks.due("6: the THING stays", f.thing(0, 2), 2);
         Checks.due("4: a FAULT at 1200", Checks.read(f, Checks.blanks(1201)), -1201);
         Checks.dueText("4: they stay still", Checks.state(f, 2).replace("fault 1", "fault 0"), ahead);
+        RingPlaces left = Checks.ringOf("land a;place 7;");
+        String[] others = {"7 b;", "? b;", "abcdefg b;", "x b;", "; b;"};
+        for (String text : others) {
+            Checks.due("4: no WORD is left of the text ahead: " + text, Checks.read(left, text), -1);
+        }
+        RingPlaces end = Checks.ringOf(THING + " voice 1 loud 5;");
+        Checks.due("4: no 'loud' is left behind the end", Checks.read(end, THING + " loud 5"), -1 - (THING.length() + 7));
+        Checks.due("5: the end is the FAULT", end.fault(), 1);
         Document.says("Promise 5", "The kind of the FAULT of the latest ring();");
         RingPlaces k = new RingPlaces();
         Checks.read(k, "?");
