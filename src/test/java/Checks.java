@@ -6,31 +6,28 @@ import java.util.NoSuchElementException;
 /** What the tests share: texts and rows onto the tape, and a count of the answers that are not as due. */
 final class Checks {
     static final int THROWS = Integer.MIN_VALUE;
+    /** Of RINGS that an object may have had ahead, as full as can be: what is told of each THING, and its paper. */
+    static final String[][] RINGS_AHEAD = {{" 0 3599 ground 0 39 voice 0;", " 0 999 there 0;"},
+        {" 500 700 ground 0 39 dead 9 9 loud 9;", " 0 999;"}};
 
     private static int wrong = 0;
     private static int made = 0;
     private static String about = "";
-    private static boolean ringAhead = false;
-    private static int objects = 0;
+    private static String[] ringAhead = null;
 
     private Checks() {
     }
 
-    /** From here on each new object has had another RING, as full as can be, so that what is left of it would show. */
-    static void withRingAhead(boolean ahead) {
+    /** From here on each new object has had such a RING ahead; null: none. */
+    static void withRingAhead(String[] ahead) {
         ringAhead = ahead;
     }
 
     /** A new object. What its latest shortest, fit and narrow told is untouched, and nothing is kept. */
     static RingPlaces fresh() {
         RingPlaces r = new RingPlaces();
-        if (ringAhead) {
-            objects++;
-            if (objects % 2 == 0) {
-                liveThrough(r, " 0 3599 ground 0 39 voice 0;", " 0 999 there 0;");
-            } else {
-                liveThrough(r, " 500 700 ground 0 39 dead 9 9 loud 9;", " 0 999;");
-            }
+        if (ringAhead != null) {
+            liveThrough(r, ringAhead[0], ringAhead[1]);
         }
         return r;
     }

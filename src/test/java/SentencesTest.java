@@ -6,8 +6,10 @@ public final class SentencesTest {
     public static void main(String[] args) throws Exception {
         Document.open();
         all();
-        Checks.withRingAhead(true);
-        all();
+        for (String[] ahead : Checks.RINGS_AHEAD) {
+            Checks.withRingAhead(ahead);
+            all();
+        }
         Document.mustBeHeld();
         Checks.finish();
     }
