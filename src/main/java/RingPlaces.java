@@ -418,7 +418,8 @@ public final class RingPlaces {
     }
 
     private static int reachAt(int loud, int sharp, int gap) {
-        return loud * 1000 / (10 + sharp * gap);
+        int divisor = 10 + sharp * gap;
+        return divisor > 0 ? loud * 1000 / divisor : 0;
     }
 
     /** The words of the text's grammar; no NAME is one of them. */

@@ -147,6 +147,23 @@ public final class RulesTest {
         }
         methodsAreShort(source);
         callsAreShallow(bare);
+        divisorsAreLookedAt(bare);
+    }
+
+    /** A divisor is a written number, a constant, the greater one of 1 and another, or tested on its own line. */
+    private static void divisorsAreLookedAt(String bare) {
+        Matcher division = Pattern.compile(" [/%] ([^;\n]*)").matcher(bare);
+        int seen = 0;
+        for (int from = 0; division.find(from); from = division.start(1)) {
+            String divisor = division.group(1);
+            String ahead = bare.substring(0, division.start());
+            String name = divisor.replaceAll("\\W.*", "");
+            String told = ahead.substring(Math.max(0, ahead.lastIndexOf("int " + name + " = ")));
+            must(divisor.matches("([1-9]\\d*|[A-Z]+)\\b.*|Math\\.max\\(1, .*") || told.startsWith("int " + name + " = Math.max(1, ")
+                || ahead.substring(ahead.lastIndexOf('\n')).contains(name + " > 0 ? "), "7: a divisor is looked at: " + divisor);
+            seen++;
+        }
+        must(seen > 0, "7: divisions are seen");
     }
 
     /** Bodies by names: methods of one name count as one, so the depth is never told too low. */
